@@ -1,3 +1,5 @@
+import java.util.Arrays;
+
 /**
  * Bells that are money: a town told as a text, its bells melted, cast and
  * cracked, its years passed and foretold. README.md shows how it is used.
@@ -347,7 +349,7 @@ public final class BellMoney {
         if (noTown()) {
             return NO_SUCH;
         }
-        forecast.runWithout(world, choice.loudest(world));
+        forecast.runWithout(world, choice.loudest(world), true);
         return forecast.state.trust;
     }
 
@@ -809,8 +811,15 @@ public final class BellMoney {
                 into.peal = bitsBelow(NOTES);
             } else if (isWord("due")) {
                 readDue();
+            } else if (isWord("keeps")) {
+                readKeeps();
+            } else if (isWord("least")) {
+                advance();
+                into.law.least = number(0, 10);
+            } else if (isWord("after")) {
+                readAfter();
             } else {
-                readLaw();
+                fail(1, place);
             }
             if (fault == 0 && kind != SIGN) {
                 fail(1, place);
@@ -883,30 +892,26 @@ public final class BellMoney {
                 return;
             }
             advance();
-            into.dueMuch[into.dues] = number(1, MOST_MUCH);
-            into.dueYear[into.dues] = behind("in").number(0, YEARS - 1);
-            into.dues++;
+            int much = number(1, MOST_MUCH);
+            int year = behind("in").number(0, YEARS - 1);
+            if (fault == 0 && year >= 0 && year < YEARS) {
+                into.dueMuch[into.dues] = much;
+                into.dueYear[into.dues] = year;
+                into.duesIn[year] |= 1 << into.dues;
+                into.dues++;
+            }
         }
 
-        private void readLaw() {
-            if (isWord("keeps")) {
-                advance();
-                int bell = number(0, into.told - 1);
-                if (fault == 0) {
-                    into.law.kept |= 1 << bell;
-                }
-            } else if (isWord("least")) {
-                advance();
-                into.law.least = number(0, 10);
-            } else if (isWord("after")) {
-                advance();
-                readAfter();
-            } else {
-                fail(1, place);
+        private void readKeeps() {
+            advance();
+            int bell = number(0, into.told - 1);
+            if (fault == 0) {
+                into.law.kept |= 1 << bell;
             }
         }
 
         private void readAfter() {
+            advance();
             int first = number(0, into.told - 1);
             int second = number(0, into.told - 1);
             if (fault != 0 || first < 0 || first >= MOST_BELLS) {
@@ -995,17 +1000,13 @@ public final class BellMoney {
                 }
             } else if (isDigit(tape.bytes[at])) {
                 kind = NUMBER;
-                takeDigits();
+                value = 0;
+                while (at < tape.size && isDigit(tape.bytes[at])) {
+                    value = Math.min(TOO_MUCH, value * 10 + tape.bytes[at] - '0');
+                    at++;
+                }
             } else {
                 kind = tape.bytes[at] == ';' ? SIGN : STRANGE;
-                at++;
-            }
-        }
-
-        private void takeDigits() {
-            value = 0;
-            while (at < tape.size && isDigit(tape.bytes[at])) {
-                value = Math.min(TOO_MUCH, value * 10 + tape.bytes[at] - '0');
                 at++;
             }
         }
@@ -1111,9 +1112,7 @@ public final class BellMoney {
         void wipe() {
             kept = 0;
             least = 0;
-            for (int bell = 0; bell < MOST_BELLS; bell++) {
-                behind[bell] = NONE;
-            }
+            Arrays.fill(behind, NONE);
         }
 
         void copy(Law other) {
@@ -1155,6 +1154,8 @@ public final class BellMoney {
         int dues = 0;
         final int[] dueYear = new int[MOST_DUES];
         final int[] dueMuch = new int[MOST_DUES];
+        // by years, as bits: most years have none, and years are run over and over
+        final int[] duesIn = new int[YEARS];
         final Law law = new Law();
 
         void wipe() {
@@ -1170,6 +1171,7 @@ public final class BellMoney {
             wards = 0;
             peal = 0;
             dues = 0;
+            Arrays.fill(duesIn, 0);
             law.wipe();
         }
 
@@ -1192,6 +1194,19 @@ public final class BellMoney {
             System.arraycopy(other.listens, 0, listens, 0, MOST_WARDS);
             System.arraycopy(other.dueYear, 0, dueYear, 0, MOST_DUES);
             System.arraycopy(other.dueMuch, 0, dueMuch, 0, MOST_DUES);
+            System.arraycopy(other.duesIn, 0, duesIn, 0, YEARS);
+        }
+
+        int roomIn(int set) {
+            int sum = 0;
+            for (int tower = 0; tower < MOST_TOWERS; tower++) {
+                sum += (set >> tower & 1) * holds[tower];
+            }
+            return sum;
+        }
+
+        int duesOf(int year) {
+            return year < 0 || year >= YEARS ? 0 : duesIn[year];
         }
 
         int coinsOf(int bell) {
@@ -1343,8 +1358,9 @@ public final class BellMoney {
 
         long toBePaid(Town town) {
             long sum = priceAt(debt, trust);
-            for (int due = 0; due < town.dues && due < MOST_DUES; due++) {
-                if (town.dueYear[due] == year) {
+            int asked = town.duesOf(year);
+            for (int due = 0; due < MOST_DUES && asked >> due != 0; due++) {
+                if ((asked >> due & 1) == 1) {
                     sum += priceAt(town.dueMuch[due], trust);
                 }
             }
@@ -1365,8 +1381,9 @@ public final class BellMoney {
         boolean passYear(Town town, int wardsMissing) {
             purse += town.tax;
             long unpaid = unpaidOf(debt);
-            for (int due = 0; due < town.dues && due < MOST_DUES; due++) {
-                if (town.dueYear[due] == year) {
+            int asked = town.duesOf(year);
+            for (int due = 0; due < MOST_DUES && asked >> due != 0; due++) {
+                if ((asked >> due & 1) == 1) {
                     unpaid += unpaidOf(town.dueMuch[due]);
                 }
             }
@@ -1440,9 +1457,7 @@ public final class BellMoney {
             full = true;
             width = itsWidth;
             size = itsSize;
-            for (int i = 0; i < numbers.length; i++) {
-                numbers[i] = 0;
-            }
+            Arrays.fill(numbers, 0);
         }
 
         void put(int i, long v) {
@@ -1533,13 +1548,14 @@ public final class BellMoney {
         }
 
         void runOn(World world) {
-            runWithout(world, 0);
+            runWithout(world, 0, true);
         }
 
-        void runWithout(World world, int set) {
+        /** Melts a set now; then all years pass, or those to the first in which something is not paid. */
+        void runWithout(World world, int set, boolean paidOrNot) {
             begin(world);
             state.takeDown(world.town, set);
-            for (int i = 0; i < YEARS && state.year < YEARS; i++) {
+            for (int i = 0; i < YEARS && state.year < YEARS && (paidOrNot || firstUnpaid == NONE); i++) {
                 passOne(world.town);
             }
         }
@@ -1661,7 +1677,7 @@ public final class BellMoney {
             for (int set = 0; set < sets; set++) {
                 int cost = byOunces ? world.town.bells.weight(set) : Integer.bitCount(set);
                 if (allowed[set] && (best == NONE || cost < bestCost)) {
-                    forecast.runWithout(world, set);
+                    forecast.runWithout(world, set, false);
                     if (forecast.firstUnpaid == NONE) {
                         best = set;
                         bestCost = cost;
@@ -1677,8 +1693,9 @@ public final class BellMoney {
             int most = NONE;
             int sets = setsOf(world);
             for (int set = 0; set < sets; set++) {
-                if (allowed[set]) {
-                    forecast.runWithout(world, set);
+                // no set is louder than the most trust there is
+                if (allowed[set] && (most < MOST_TRUST || isFewer(set, best))) {
+                    forecast.runWithout(world, set, true);
                     int trust = forecast.state.trust;
                     if (trust > most || trust == most && isFewer(set, best)) {
                         best = set;
@@ -1750,6 +1767,9 @@ public final class BellMoney {
          */
         private boolean holdsAll(World world, int towers) {
             int hang = world.state.hang;
+            if (world.town.bells.weight(hang) > world.town.roomIn(towers)) {
+                return false;
+            }
             packed[0] = 0;
             for (int set = 1; set <= hang && set < packed.length; set++) {
                 if ((set & ~hang) == 0) {
@@ -1825,9 +1845,9 @@ public final class BellMoney {
          * many are glued: rows of single notes alone would be too many to look at.
          */
         int rowsRung(int notes) {
-            begin(single);
-            begin(longer);
-            single[0] = notes == 0 ? 0 : 1;
+            Arrays.fill(single, 0);
+            Arrays.fill(longer, 0);
+            single[0] = 1;
             for (int note = 0; note < NOTES; note++) {
                 if ((notes >> note & 1) == 1) {
                     takeNote((notes << 1 >> note & 1) == 1);
@@ -1849,12 +1869,6 @@ public final class BellMoney {
                 // two single notes can be glued in two ways, a longer block goes on in one
                 longer[blocks] = besideLast ? -2 * single[blocks] - longer[blocks] : 0;
                 single[blocks] = begun;
-            }
-        }
-
-        private static void begin(int[] weights) {
-            for (int blocks = 0; blocks < weights.length; blocks++) {
-                weights[blocks] = 0;
             }
         }
     }

@@ -31,6 +31,13 @@ public final class ActTest {
         Check.same("purse", x.now(1), 158);
         Check.same("heap", x.now(2), 8);
         Check.same("acts", x.count(8), 2);
+        x = Tell.town("town coin 7 purse 1 tax 0 trust 0 frost 0;tower holds 999;bell 100 tin 0 note 0 in 0;");
+        Check.same("of sevens", x.melt(0), 14);
+        Check.same("none over", x.now(2), 0);
+        x = Tell.town("town coin 9 purse 1 tax 0 trust 0 frost 0;tower holds 999;bell 100 tin 0 note 0 in 0;");
+        Check.same("of nines", x.melt(0), 10);
+        Check.same("eight over", x.now(2), 8);
+        Check.same("purse", x.now(1), 11);
     }
 
     private static void cast() {

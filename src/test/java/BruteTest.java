@@ -445,7 +445,8 @@ public final class BruteTest {
         takeBackTo(base);
     }
 
-    private String look() {
+    /** All there is to see of a town, with what follows from every part of it. */
+    private static String look(BellMoney x) {
         StringBuilder all = new StringBuilder();
         for (int what = 0; what < 10; what++) {
             all.append(x.count(what)).append(' ').append(x.now(what)).append(' ');
@@ -454,27 +455,47 @@ public final class BruteTest {
             for (int what = 0; what < 6; what++) {
                 all.append(x.bell(bell, what)).append(' ');
             }
+            all.append(x.why(bell)).append(' ').append(x.coins(bell)).append(' ').append(x.hears(bell)).append(' ');
         }
-        return all.toString();
+        for (int i = 0; i < 12; i++) {
+            all.append(x.tower(i, 0)).append(' ').append(x.ward(i, 0)).append(' ').append(x.ward(i, 2)).append(' ')
+                    .append(x.due(i, 0)).append(' ').append(x.due(i, 1)).append(' ');
+        }
+        for (int year = 0; year < 20; year++) {
+            all.append(x.rest(year)).append(' ').append(x.trust(year)).append(' ');
+        }
+        return all.append(x.asked()).append(' ').append(x.loudly()).append(' ').append(x.drawn(5, 0)).toString();
     }
 
     private void images() {
-        String before = look();
+        List<String> looks = new ArrayList<>();
         x.image(1);
-        for (int i = 0; i < 10; i++) {
+        for (int acts = base; acts > 0; acts--) {
+            looks.add(look(x));
+            x.undo();
+        }
+        looks.add(look(x));
+        x.back(1);
+        for (int i = upTo(3); i > 0; i--) {
+            String text = randomTown();
+            Tell.town(x, text);
+            Check.yes("as in a new object", look(x).equals(look(Tell.town(text))));
+            for (int k = upTo(10); k > 0; k--) {
+                act();
+            }
+        }
+        for (int i = upTo(10); i > 0; i--) {
             act();
         }
-        if (upTo(1) == 0) {
-            x.anew();
-            act();
-            Tell.town(x, randomTown());
+        x.image(2);
+        String other = look(x);
+        x.back(1);
+        for (String due : looks) {
+            Check.yes("back as it was", look(x).equals(due));
+            x.undo();
         }
-        x.back(1);
-        Check.yes("back as it was", look().equals(before));
-        x.anew();
-        String begin = look();
-        x.back(1);
-        takeBackTo(0);
-        Check.yes("all taken back one by one", look().equals(begin));
+        Check.same("all taken back", x.undo(), -5);
+        x.back(2);
+        Check.yes("back as it was", look(x).equals(other));
     }
 }

@@ -11,7 +11,7 @@ import java.util.regex.Pattern;
 /** The public face, and those rules of LANGUAGE.md that a look at the text can tell. */
 public final class FaceTest {
     private static final String[] BANNED = {"\\bthrow\\b", "\\btry\\b", "\\bcatch\\b", "\\bsynchronized\\b",
-        "\\bassert\\b", "->", "::", "\\bimport\\b", "\\bpackage\\b", "\\bprotected\\b", "Exact\\(", "\\bSystem\\.(?!arraycopy)",
+        "\\bassert\\b", "->", "::", "\\bimport (?!java.util.Arrays;)", "\\bpackage\\b", "\\bprotected\\b", "Exact\\(", "\\bSystem\\.(?!arraycopy)",
         "\\bdouble\\b", "\\bfloat\\b", "\\bvar\\b", "\\bstatic \\{", "\\bhashCode\\b", "\\btoString\\b", "while \\(true\\)"};
 
     public static void main(String[] args) throws IOException {

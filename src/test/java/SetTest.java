@@ -82,6 +82,11 @@ public final class SetTest {
             x.passes();
         }
         Check.same("as now", x.loud(), x.now(3));
+        x = Tell.town("town coin 10 purse 0 tax 50 trust 5 frost 0;tower holds 999;bell 100 tin 0 note 0 in 0;"
+                + "due 50 in 0;due 5 in 0;");
+        Check.same("5 are not paid at first", x.broke(), 0);
+        Check.same("trust comes back without melting", x.loudly(), 0);
+        Check.same("trust comes back without melting", x.loud(), 9);
     }
 
     private static void lawful() {
@@ -162,6 +167,7 @@ public final class SetTest {
         Check.same("an earlier one", x.casts(1, 21, 20), -2);
         Check.same("an earlier one", x.castOf(1, 21, 20), -2);
         Check.same("the least of all", x.casts(1, 0, 40), 100);
+        Check.same("more than there is", x.casts(10000, 0, 40), -1);
         Check.same("which", x.castOf(98, 0, 40), 2);
         Check.same("98 are left of 100", x.castOf(99, 0, 40), 8);
         Check.same("both ends", x.castOf(1, 22, 22), 1);
@@ -206,6 +212,9 @@ public final class SetTest {
         Check.same("hanging or not", x.tested(22, -1), 2);
         x.cast(10, 0, 0, 0);
         Check.same("cast ones too", x.tested(0, -1), 1);
+        BellMoney small = Tell.town(HEAD + "tower holds 1;bell 1 tin 7 note 0 in 0;");
+        Check.same("one ounce", small.tested(7, 0), 1);
+        Check.same("one ounce", small.tested(7, 1), 0);
         Check.same("no such tin", x.tested(-1, -1), -2);
         Check.same("no such tin", x.tested(41, -1), -2);
         Check.same("no such coins", x.tested(22, -2), -2);

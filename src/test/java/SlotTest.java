@@ -130,6 +130,13 @@ public final class SlotTest {
         Tell.plan(x, 0, 3, 1, 2, 0);
         Check.same("by years, not by the row's order", x.plan(0, 4), 0);
         Check.same("the first year without", x.plan(0, 3), 2);
+        x.row(1, 1, 60);
+        for (int i = 0; i < 30; i++) {
+            x.write(1, 2 * i, 19);
+        }
+        x.write(1, 58, 18);
+        x.write(1, 59, 3);
+        Check.same("all of thirty but 0 and 3, the last of them, are not melted", x.plan(1, 4), 28);
         Check.same("nothing was done", x.count(8), 0);
         Check.same("nothing was done", x.now(5), 15);
     }

@@ -25,6 +25,12 @@ public final class TapeTest {
         Check.same("fault(1) ahead of any", x.fault(1), -1);
         Check.same("fault(2)", x.fault(2), -1);
         Check.same("fault(-1)", x.fault(-1), -1);
+        Check.same("asked()", x.asked(), -2);
+        Check.same("passes()", x.passes(), -2);
+        Check.same("undo()", x.undo(), -2);
+        Check.same("anew()", x.anew(), -2);
+        Check.same("tax(1)", x.tax(1), -2);
+        Check.same("now(0)", x.now(0), -2);
         Check.same("may()", x.may(), -2);
         Check.same("back(0)", x.back(0), -6);
     }
@@ -99,6 +105,9 @@ public final class TapeTest {
         behind(HEAD, "5;", 1);
         behind(HEAD, "towers holds 5;", 1);
         behind(HEAD, "towe", 1);
+        behind(HEAD, "towerz holds 5;", 1);
+        behind(HEAD, "towera holds 5;", 1);
+        words();
         behind(HEAD + "tower holds ", "-5;", 1);
         behind(HEAD + "tower holds 5", ".", 1);
         behind(HEAD + "tower holds 5", "", 1);
@@ -110,6 +119,20 @@ public final class TapeTest {
         behind(HEAD + "tower holds 5;bell 5 tin 1 note 1 in 0 ", "cracke;", 1);
         behind(HEAD + "tower holds 5;bell 5 tin 1 note 1 in 0 cracked ", "cracked;", 1);
         behind(HEAD + "tower holds 5;ward ", ";", 1);
+    }
+
+    /** Each word with one of its letters another one. */
+    private static void words() {
+        String text = HEAD + "tower holds 9;bell 5 tin 1 note 1 in 0 cracked;bell 4 tin 1 note 1 in 0;ward 0;peal 1;"
+                + "due 1 in 1;keeps 0;least 1;after 0 1;";
+        int word = 0;
+        for (int i = 0; i < text.length(); i++) {
+            boolean letter = text.charAt(i) >= 'a' && text.charAt(i) <= 'z';
+            word = letter ? word : i + 1;
+            if (letter) {
+                fault(text.substring(0, i) + "z" + text.substring(i + 1), 1, word);
+            }
+        }
     }
 
     private static void heads() {
@@ -160,7 +183,12 @@ public final class TapeTest {
         behind(bell + "after 0 ", "0;", 2);
         behind(bell + "after ", "1 1;", 2);
         behind(bell + "after 0 ", "1;", 2);
-        BellMoney x = new BellMoney();
+        BellMoney x = Tell.town(tower + "tower holds 200;bell 60 tin 40 note 11 in 1;");
+        x.town();
+        x.town();
+        Check.same("another town's tower", Tell.town(x, tower + "bell 60 tin 40 note 11 in 1;"), -4);
+        Check.same("another town's tower", Tell.town(x, tower + "bell 60 tin 40 note 11 in 1;"), -4);
+        Check.same("the least there are", Tell.town(x, HEAD + "tower holds 1;bell 1 tin 0 note 0 in 0;due 1 in 0;"), 4);
         Check.same("all to the brim", Tell.town(x, bell + "bell 40 tin 0 note 0 in 0 cracked;ward 0;peal 0 11;"
                 + "due 1000000 in 19;keeps 1;least 10;after 0 1;"), 10);
     }
@@ -209,6 +237,12 @@ public final class TapeTest {
         Check.same("the town stays", x.now(0), 1);
         Check.same("acts stay", x.count(8), 1);
         Check.same("the tape stays", x.count(10), 58);
+        Tell.put(x, "town coin 1 purse 1 tax 1 trust 1 frost 101;");
+        Check.same("a fault in the head", x.town(), -4);
+        Check.same("the town stays", x.now(0), 1);
+        Check.same("the town stays", x.count(4), 10);
+        Check.same("the town stays", x.count(5), 20);
+        Tell.put(x, HEAD + "due 0 in 1;");
         Check.same("a fault again", x.town(), -4);
         Check.same("its place", x.fault(1), 51);
         Check.same("cut ahead of it", x.end(47), 47);
