@@ -79,7 +79,10 @@ public final class BellMoney {
     }
 
     public int town() {
-        reader.read(spare.town);
+        reader.begin(spare.town);
+        for (int i = 0; i < MOST_BYTES && reader.hasMore(); i++) {
+            reader.readLine();
+        }
         if (reader.fault != 0) {
             return FAULTY;
         }
@@ -765,7 +768,7 @@ public final class BellMoney {
         private static final int NUMBER = 2;
         private static final int SIGN = 3;
         private static final int STRANGE = 4;
-        // above every bound, so a longer number may be cut to it
+        // above every bound: no digit behind it can make it right again
         private static final int TOO_MUCH = 100_000_000;
 
         final Tape tape;
@@ -783,19 +786,20 @@ public final class BellMoney {
             this.into = into;
         }
 
-        void read(Town town) {
+        void begin(Town town) {
             into = town;
             town.wipe();
             fault = 0;
             faultPlace = NONE;
             at = 0;
             advance();
-            for (int i = 0; i < MOST_BYTES && kind != AT_END && fault == 0; i++) {
-                readLine();
-            }
         }
 
-        private void readLine() {
+        boolean hasMore() {
+            return kind != AT_END && fault == 0;
+        }
+
+        void readLine() {
             if (kind != WORD) {
                 fail(1, place);
             } else if (into.lines == 0) {
@@ -991,32 +995,34 @@ public final class BellMoney {
                 at++;
             }
             place = at;
-            if (at >= tape.size) {
-                kind = AT_END;
-            } else if (isLetter(tape.bytes[at])) {
-                kind = WORD;
-                while (at < tape.size && isLetter(tape.bytes[at])) {
+            kind = kindHere();
+            if (kind == WORD) {
+                while (at < tape.size && tape.bytes[at] >= 'a' && tape.bytes[at] <= 'z') {
                     at++;
                 }
-            } else if (isDigit(tape.bytes[at])) {
-                kind = NUMBER;
+            } else if (kind == NUMBER) {
                 value = 0;
-                while (at < tape.size && isDigit(tape.bytes[at])) {
-                    value = Math.min(TOO_MUCH, value * 10 + tape.bytes[at] - '0');
+                while (at < tape.size && tape.bytes[at] >= '0' && tape.bytes[at] <= '9') {
+                    value = value < TOO_MUCH ? value * 10 + tape.bytes[at] - '0' : value;
                     at++;
                 }
-            } else {
-                kind = tape.bytes[at] == ';' ? SIGN : STRANGE;
+            } else if (kind != AT_END) {
                 at++;
             }
         }
 
-        private static boolean isLetter(int sign) {
-            return sign >= 'a' && sign <= 'z';
-        }
-
-        private static boolean isDigit(int sign) {
-            return sign >= '0' && sign <= '9';
+        private int kindHere() {
+            if (at >= tape.size) {
+                return AT_END;
+            }
+            int sign = tape.bytes[at];
+            if (sign >= 'a' && sign <= 'z') {
+                return WORD;
+            }
+            if (sign >= '0' && sign <= '9') {
+                return NUMBER;
+            }
+            return sign == ';' ? SIGN : STRANGE;
         }
     }
 

@@ -243,6 +243,8 @@ public final class SetTest {
                 + "bell 7 tin 0 note 0 in 0;bell 7 tin 0 note 0 in 1;bell 7 tin 0 note 0 in 2;");
         Check.same("each in one", x.hold(), 3);
         Check.same("each in one", x.held(), 7);
+        Check.same("just so much", Tell.town(HEAD + "tower holds 10;tower holds 30;bell 4 tin 0 note 0 in 0;"
+                + "bell 6 tin 0 note 0 in 0;").held(), 1);
         Check.same("a cracked one hangs too", x.cracks(0), 0);
         Check.same("each in one", x.hold(), 3);
     }

@@ -56,6 +56,9 @@ public final class YearTest {
     }
 
     private static void debts() {
+        Check.same("clear at first", Tell.town(HEAD).clear(), 0);
+        Check.same("5 are not paid at first", Tell.town("town coin 10 purse 0 tax 50 trust 5 frost 0;"
+                + "due 50 in 0;due 5 in 0;").clear(), 1);
         BellMoney x = Tell.town(LookTest.TOWN);
         Check.same("at once", x.broke(), 0);
         Check.same("never clear", x.clear(), -1);
