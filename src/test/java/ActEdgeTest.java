@@ -645,6 +645,16 @@ public final class ActEdgeTest {
         x.melt(3);
         Check.same("61: back again", x.back(2), 0);
         Check.yes("61: the image is as it was", Seen.town(x).equals(then));
+        x = Tell.town(LookEdgeTest.bells(HEAD, 5, 5, 5, 5) + "keeps 0;after 1 2;least 3;");
+        x.image(1);
+        x.melt(3);
+        then = Seen.town(x);
+        x.image(0);
+        Tell.town(x, LookEdgeTest.bells(HEAD, 5, 5, 5, 5));
+        x.back(0);
+        Check.yes("61: the law, too", Seen.town(x).equals(then));
+        x.back(1);
+        Check.same("61: four hang", x.may(), 12);
         x = busy();
         x.cracks(7);
         x.passes();

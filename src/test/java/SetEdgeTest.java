@@ -16,6 +16,7 @@ public final class SetEdgeTest {
         loudEmptySet();
         loudFewest();
         loudPaidOrNot();
+        loudLawful();
         loudYearTwenty();
         lawfulNoSuchSet();
         lawfulInSomeOrder();
@@ -41,6 +42,7 @@ public final class SetEdgeTest {
         holdNone();
         holdJust();
         holdEachInOne();
+        holdOneOunceShort();
         holdLeastSet();
         fillsJust();
         fillsNone();
@@ -171,6 +173,17 @@ public final class SetEdgeTest {
         loud("28: never paid", Tell.town(LookEdgeTest.bells(PLAIN, 20, 30, 40) + "due 1000 in 0;"), 5, 0);
     }
 
+    private static void loudLawful() {
+        // 0 alone, of which 59 are left, or 1 and 2 together
+        String text = LookEdgeTest.bells(PLAIN, 60, 20, 40) + "due 59 in 0;";
+        loud("29: one", Tell.town(text), 9, 1);
+        loud("29: kept", Tell.town(text + "keeps 0;"), 9, 6);
+        loud("29: behind another", Tell.town(text + "after 0 2;keeps 1;"), 9, 5);
+        loud("28: the least hang", Tell.town(text + "keeps 0;least 2;"), 5, 0);
+        loud("29: one, though two of a lesser number do it", Tell.town(LookEdgeTest.bells(PLAIN, 20, 40, 60) + "due 59 in 0;"), 9, 4);
+        loud("29: one, though three do it", Tell.town(LookEdgeTest.bells(PLAIN, 20, 20, 20, 60) + "due 59 in 0;"), 9, 8);
+    }
+
     private static void loudYearTwenty() {
         BellMoney x = Tell.town(LookEdgeTest.bells(PLAIN, 20) + "ward 0;peal 0;");
         for (int year = 0; year < 20; year++) {
@@ -264,6 +277,8 @@ public final class SetEdgeTest {
 
     private static void silentFewest() {
         silence("31: one", Tell.town(ringers(3) + "ward 0;peal 3;"), 1, 1);
+        silence("31: the first note", Tell.town(ringers(11, 0) + "ward 0;peal 0;"), 2, 2);
+        silence("31: the last note", Tell.town(ringers(0, 11) + "ward 0;peal 11;"), 2, 2);
         silence("31: two", Tell.town(ringers(3, 3) + "ward 0;peal 3;"), 3, 0);
         silence("31: all eight", Tell.town(ringers(3, 3, 3, 3, 3, 3, 3, 3) + "ward 0;peal 3;"), 255, 0);
         silence("31: the note of fewer", Tell.town(ringers(3, 3, 3, 4, 4) + "ward 0;peal 3 4;"), 24, 0);
@@ -489,6 +504,9 @@ public final class SetEdgeTest {
         BellMoney x = Tell.town(PLAIN + "tower holds 99;bell 4 tin 10 note 0 in 0;bell 4 tin 20 note 0 in 0;"
                 + "bell 4 tin 20 note 0 in 0;");
         tested("the first with one or the other", x, 15, -1, 2, 1, 7, 2);
+        Check.same("38: asked alone", x.sure(20, -1, 1), 6);
+        Check.same("38: asked alone", x.sure(16, -1, 0), 7);
+        Check.same("39: asked alone", x.few(10, -1), 1);
         tested("all of them", x, 16, -1, 1, 7, 7, 3);
         tested("the others", x, 20, -1, 3, 0, 6, 1);
     }
@@ -532,6 +550,16 @@ public final class SetEdgeTest {
         // 7 and 4, 5 and 4: no other way does
         holds("a tight fit", Tell.town(PLAIN + "tower holds 8;tower holds 11;tower holds 9;"
                 + "bell 7 tin 0 note 0 in 1;bell 5 tin 0 note 0 in 2;bell 4 tin 0 note 0 in 1;bell 4 tin 0 note 0 in 2;"), 6);
+    }
+
+    /** Two towers have room for so many ounces, but not for these bells by one ounce. */
+    private static void holdOneOunceShort() {
+        String two = "bell 11 tin 0 note 0 in 1;bell 11 tin 0 note 0 in 2;";
+        holds("the first is short", Tell.town(PLAIN + "tower holds 10;tower holds 12;tower holds 11;" + two), 6);
+        holds("the second is short", Tell.town(PLAIN + "tower holds 12;tower holds 10;tower holds 11;"
+                + "bell 11 tin 0 note 0 in 0;bell 11 tin 0 note 0 in 2;"), 5);
+        holds("room for three, and one", Tell.town(PLAIN + "tower holds 15;tower holds 13;tower holds 7;"
+                + "bell 7 tin 0 note 0 in 0;bell 7 tin 0 note 0 in 0;bell 7 tin 0 note 0 in 1;bell 7 tin 0 note 0 in 2;"), 7);
     }
 
     private static void holdLeastSet() {

@@ -331,6 +331,8 @@ public final class SlotEdgeTest {
             x.write(0, 2 * i + 1, 3);
         }
         Check.same("23: one of thirty", x.plan(0, 4), 29);
+        x.write(0, 59, 0);
+        Check.same("23: and the last of them", x.plan(0, 4), 28);
     }
 
     private static void planInOrder() {

@@ -18,6 +18,7 @@ public final class TapeEdgeTest {
         townEmptiesTheTape();
         townInPlaceOfAnother();
         townNothingDone();
+        townBehindMany();
         townOfNoLines();
         townFaultAllStays();
         townFaultTapeStays();
@@ -197,6 +198,40 @@ public final class TapeEdgeTest {
         Check.yes("as told", Seen.town(x).equals(Seen.town(Tell.town(LookTest.TOWN))));
         Check.same("no act", x.count(8), 0);
         Check.same("none to take back", x.undo(), -5);
+    }
+
+    /** An object in which more than one town was told, and much was done in each. */
+    private static BellMoney worn() {
+        BellMoney x = new BellMoney();
+        for (int i = 0; i < 3; i++) {
+            Tell.town(x, LookEdgeTest.FULL + "keeps 0;keeps 1;least 5;after 2 3;after 4 5;");
+            x.melt(3);
+            x.cast(77, 7, 7, 1);
+            x.cracks(2);
+            for (int year = 0; year < 20; year++) {
+                x.passes();
+            }
+            Check.yes("debt", x.now(4) > 0);
+        }
+        return x;
+    }
+
+    private static void townBehindMany() {
+        String[] texts = {HEAD, LookTest.TOWN, HEAD + "tower holds 9;" + "bell 1 tin 0 note 0 in 0;".repeat(5), "",
+            "town coin 1 purse 0 tax 0 trust 0 frost 0;tower holds 1;ward 0;peal 1;due 1 in 1;"};
+        for (String text : texts) {
+            BellMoney x = worn();
+            BellMoney fresh = new BellMoney();
+            Check.same("as many lines", Tell.town(x, text), Tell.town(fresh, text));
+            Check.yes("as in a new object: " + text, Seen.town(x).equals(Seen.town(fresh)));
+            Check.same("nothing done", x.undo(), text.isEmpty() ? -2 : -5);
+        }
+        BellMoney x = worn();
+        Check.same("another town's tower", Tell.town(x, HEAD + "tower holds 9;bell 1 tin 0 note 0 in 1;"), -4);
+        Check.same("another town's bell", Tell.town(x, HEAD + "tower holds 9;bell 1 tin 0 note 0 in 0;keeps 1;"), -4);
+        x = worn();
+        Check.same("no line", Tell.town(x, " "), 0);
+        noTown(x);
     }
 
     private static void townOfNoLines() {

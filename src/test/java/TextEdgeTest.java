@@ -102,6 +102,11 @@ public final class TextEdgeTest {
         fault(1, "", "5;");
         fault(1, "", "towns coin 1");
         fault(1, "", "tow coin 1");
+        fault(1, "", "down coin 1");
+        fault(1, HEAD, "bower holds 5;");
+        fault(1, HEAD, "towerz holds 5;");
+        fault(1, HEAD, "z");
+        fault(1, HEAD, "a");
     }
 
     private static void towerLine() {
@@ -122,6 +127,10 @@ public final class TextEdgeTest {
             for (int what = 0; what < 6; what++) {
                 Check.same("told bell " + bell + " what " + what, x.bell(bell, what), due[bell][what]);
             }
+        }
+        x = sound(TOWERS + "bell 1 tin 0 note 0 in 0 cracked;bell 1 tin 0 note 0 in 0;bell 1 tin 0 note 0 in 0 cracked;");
+        for (int bell = 0; bell < 3; bell++) {
+            Check.same("each for itself", x.bell(bell, 5), bell == 1 ? 0 : 1);
         }
     }
 

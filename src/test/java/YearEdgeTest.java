@@ -11,6 +11,7 @@ public final class YearEdgeTest {
         sundaysNone();
         sundaysAll();
         sundaysFromNow();
+        sundaysOfAnotherTown();
         brokeFirst();
         brokeNone();
         hearsWards();
@@ -70,6 +71,16 @@ public final class YearEdgeTest {
             Check.same("46: from year " + year, x.sundays(), 20 - year);
             x.passes();
         }
+    }
+
+    /** Another town, of the same bells: what was foretold for the one is not so for the other. */
+    private static void sundaysOfAnotherTown() {
+        BellMoney x = Tell.town(LookEdgeTest.bells(HEAD, 5) + "ward 0;peal 0;");
+        Check.same("46: none misses it", x.sundays(), 20);
+        Tell.town(x, LookEdgeTest.bells(HEAD, 5) + "ward 0;peal 1;");
+        Check.same("46: one misses it", x.sundays(), 0);
+        Tell.town(x, LookEdgeTest.bells(HEAD, 5) + "ward 0;peal 0;");
+        Check.same("46: none misses it", x.sundays(), 20);
     }
 
     private static void brokeFirst() {
@@ -272,6 +283,11 @@ public final class YearEdgeTest {
         Check.same("54: one", x.changes(), 1);
         x.cracks(0);
         Check.same("54: none rings", x.changes(), 0);
+        x = ring(4, 5);
+        Check.same("54: two, a note away", x.changes(), 0);
+        x.cracks(0);
+        x.cracks(1);
+        Check.same("54: none rings any more", x.changes(), 0);
     }
 
     private static void changesBeside() {
@@ -410,6 +426,9 @@ public final class YearEdgeTest {
         for (int seed : seeds) {
             Check.same("V: from seed " + seed, x.drawn(seed, 2), firstBelow(seed, 9));
             Check.same("V: from seed " + seed, x.drawn(seed, 0), firstBelow(seed, 9) < 0 ? 0 : 1);
+        }
+        for (int seed = 1999999700; seed < 2000000000; seed++) {
+            Check.same("V: from seed " + seed, x.drawn(seed, 2), firstBelow(seed, 9));
         }
     }
 
