@@ -13,6 +13,7 @@ public final class TapeEdgeTest {
         feedFull();
         feedRefusedBringsNone();
         endFirstBytesAlone();
+        endWhereverItIs();
         endOfAll();
         endRefused();
         townEmptiesTheTape();
@@ -138,6 +139,21 @@ public final class TapeEdgeTest {
         Check.same("one line", x.town(), 1);
     }
 
+    /** What stood behind the end is not read on, be it a letter, a digit or a sign. */
+    private static void endWhereverItIs() {
+        String text = HEAD + "tower holds 99;bell 12 tin 10 note 11 in 0 cracked;peal 10 11;due 55 in 11;";
+        for (int size = 0; size <= text.length(); size++) {
+            BellMoney x = new BellMoney();
+            Tell.put(x, text);
+            x.end(size);
+            BellMoney alone = new BellMoney();
+            Tell.put(alone, text.substring(0, size));
+            Check.same("cut at " + size, x.town(), alone.town());
+            Check.same("fault, cut at " + size, x.fault(0), alone.fault(0));
+            Check.same("place, cut at " + size, x.fault(1), alone.fault(1));
+        }
+    }
+
     private static void endOfAll() {
         BellMoney x = new BellMoney();
         Check.same("0 of 0", x.end(0), 0);
@@ -204,14 +220,14 @@ public final class TapeEdgeTest {
     private static BellMoney worn() {
         BellMoney x = new BellMoney();
         for (int i = 0; i < 3; i++) {
-            Tell.town(x, LookEdgeTest.FULL + "keeps 0;keeps 1;least 5;after 2 3;after 4 5;");
+            Tell.town(x, LookEdgeTest.FULL.replace("coin 1 ", "coin 9 ") + "keeps 0;keeps 1;least 5;after 2 3;after 4 5;");
             x.melt(3);
             x.cast(77, 7, 7, 1);
             x.cracks(2);
             for (int year = 0; year < 20; year++) {
                 x.passes();
             }
-            Check.yes("debt", x.now(4) > 0);
+            Check.yes("debt and a heap", x.now(4) > 0 && x.now(2) > 0);
         }
         return x;
     }
