@@ -33,6 +33,12 @@ final class Seen {
         add(all, x.rest(19));
         add(all, x.trust(19));
         add(all, x.drawn(1, 0));
+        add(all, x.melted());
+        add(all, x.loudly());
+        add(all, x.silence());
+        add(all, x.held());
+        add(all, x.pays(1));
+        add(all, x.changes());
         return all.toString();
     }
 

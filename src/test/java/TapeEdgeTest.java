@@ -234,7 +234,8 @@ public final class TapeEdgeTest {
 
     private static void townBehindMany() {
         String[] texts = {HEAD, LookTest.TOWN, HEAD + "tower holds 9;" + "bell 1 tin 0 note 0 in 0;".repeat(5), "",
-            "town coin 1 purse 0 tax 0 trust 0 frost 0;tower holds 1;ward 0;peal 1;due 1 in 1;"};
+            "town coin 1 purse 0 tax 0 trust 0 frost 0;tower holds 1;ward 0;peal 1;due 1 in 1;",
+            HEAD + "tower holds 5;tower holds 5;bell 5 tin 0 note 0 in 0;bell 5 tin 0 note 1 in 1;ward 0 1;peal 0 1;"};
         for (String text : texts) {
             BellMoney x = worn();
             BellMoney fresh = new BellMoney();
