@@ -12,7 +12,7 @@ import java.util.TreeSet;
 
 /**
  * The document a second time, as plainly as Java can say it: every answer is looked for anew, with
- * lists and sets, no matter how long it takes. It shares no line with the program.
+ * lists and sets, no matter how long it takes. It shares no code with the program.
  */
 final class Model {
     private static final long NO_REST = -4_000_000_000_000_000_000L;
